@@ -643,7 +643,7 @@ public final class StealingArms {
         private void tellUpward(int task) {
             int ended = task;
             int above = tasks.inside[task];
-            for (int step = 0; step <= MOST_OPEN && tasks.isJoining(above); step++) {
+            for (int step = 0; step < MOST_OPEN && tasks.isJoining(above); step++) {
                 if (tasks.state[ended] == FAILED && tasks.mark[above] != CATCHES) {
                     cancelFrom(above + 1, above);
                     tasks.state[above] = FAILED;
@@ -693,7 +693,7 @@ public final class StealingArms {
 
         int armWithRowOf(int task) {
             for (int a = 0; a < armsThere; a++) {
-                if (arms[a].placeOf(task) != ABSENT) {
+                if (arms[a].holds(task)) {
                     return a;
                 }
             }
@@ -752,13 +752,13 @@ public final class StealingArms {
             return place >= 0 && place < length ? row[place] : ABSENT;
         }
 
-        int placeOf(int one) {
+        boolean holds(int one) {
             for (int k = 0; k < length; k++) {
                 if (row[k] == one) {
-                    return k;
+                    return true;
                 }
             }
-            return ABSENT;
+            return false;
         }
 
         void put(int one) {

@@ -6,6 +6,7 @@ public final class ArmsAndTreesTest {
         arms();
         armsAreFewer();
         armsAreMoreAgain();
+        allInOneRow();
         seed();
         feed();
         treesThatAreOnes();
@@ -101,6 +102,20 @@ public final class ArmsAndTreesTest {
         Check.due("more: IDLE of all is of those there", y.on(0, 2), 0);
         y.arms(2);
         Check.due("more: IDLE at first", y.arm(1, 2), 0);
+    }
+
+    private static void allInOneRow() {
+        StealingArms x = new StealingArms();
+        x.arms(4);
+        for (int k = 0; k < 32; k++) {
+            Check.tree(x, k % 4, "9");
+        }
+        Check.due("of four", x.arms(1), 4);
+        Check.due("32 in one row", x.arm(0, 0), 32);
+        Check.same("ARM by ARM", Check.row(x, 0), "0 4 8 12 16 20 24 28 1 5 9 13 17 21 25 29 "
+            + "2 6 10 14 18 22 26 30 3 7 11 15 19 23 27 31");
+        Check.due("the near end", x.arm(0, 41), 31);
+        Check.due("beyond it", x.arm(0, 42), Check.ABSENT);
     }
 
     private static void seed() {

@@ -18,6 +18,7 @@ public final class ModelTest {
     private final StringBuilder told = new StringBuilder();
     private final boolean slow; // few ROUNDS at once: more is asked while TASKS are on their way
     private final boolean hard; // much WORK in each TASK
+    private final boolean restless; // ARMS come and go all the time, and so do TASKS that they were at work on
     private final boolean late; // near the last ROUND from the start on
 
     private ModelTest(int run) {
@@ -25,6 +26,7 @@ public final class ModelTest {
         slow = run % 3 != 0;
         hard = run % 7 == 1;
         late = run % 7 == 2;
+        restless = run % 7 == 3;
     }
 
     public static void main(String[] args) {
@@ -46,6 +48,10 @@ public final class ModelTest {
                     ask("feed", text.charAt(k));
                 }
                 ask("tree", random.nextInt(20) == 0 ? odd() : random.nextInt(real.told(2)));
+            } else if (restless && random.nextInt(3) == 0) {
+                ask("arms", pick(1, 4));
+                ask("pass", 1);
+                calls++;
             } else {
                 any(NAMES[random.nextInt(NAMES.length)]);
             }
@@ -208,7 +214,7 @@ public final class ModelTest {
         if (!Check.allRightSoFar()) {
             return;
         }
-        if (random.nextInt(40) == 0) {
+        if (name.equals("undo") || random.nextInt(40) == 0) {
             lookAtAll();
         }
     }

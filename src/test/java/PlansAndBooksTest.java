@@ -121,5 +121,9 @@ public final class PlansAndBooksTest {
         Check.due("as it is at the end", x.looked(), Check.ABSENT);
         x.book(2, 5);
         Check.due("otherwise by the last", x.looked(), 4);
+        x.book(-1, 0);
+        x.book(3, 0);
+        x.book(3, 3);
+        Check.due("otherwise by the first", x.looked(), 0);
     }
 }

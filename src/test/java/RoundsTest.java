@@ -1,3 +1,8 @@
+import java.util.ArrayDeque;
+import java.util.ArrayList;
+import java.util.Deque;
+import java.util.List;
+
 /** Promises 9 to 14 (pass, cancel, told, trace, on, till), and what goes on in a ROUND. */
 public final class RoundsTest {
     public static void main(String[] args) {
@@ -18,6 +23,8 @@ public final class RoundsTest {
         pass();
         told();
         trace();
+        traceIsLong(false);
+        traceIsLong(true);
         on();
         till();
         tillIsLong();
@@ -283,6 +290,40 @@ public final class RoundsTest {
         Check.due("trace(0, 4)", x.trace(0, 4), Check.NONE);
         Check.due("trace(0, -1)", x.trace(0, -1), Check.NONE);
         Check.due("trace(max, max)", x.trace(Integer.MAX_VALUE, Integer.MAX_VALUE), Check.NONE);
+    }
+
+    /** More than twice 40 entries: what ARM 1 steals comes back to ARM 0's ROW, and is stolen again. */
+    private static void traceIsLong(boolean undone) {
+        StealingArms x = new StealingArms();
+        Deque<Integer> row = new ArrayDeque<>();
+        for (int k = 0; k < 12; k++) {
+            Check.tree(x, 0, "9");
+            row.addLast(k);
+        }
+        List<String> due = new ArrayList<>();
+        int atWork = -1;
+        for (int round = 0; round < 85; round++) {
+            x.arms(2);
+            x.pass(1);
+            x.arms(1);
+            if (round % 10 == 0) {
+                atWork = row.removeLast();
+                due.add(round + " 0 0 " + atWork);
+            }
+            if (round % 10 == 9) {
+                due.add(round + " 0 3 " + atWork);
+            }
+            row.addLast(row.removeFirst());
+            due.add(round + " 1 1 " + row.getLast());
+        }
+        if (undone) {
+            x.image();
+            x.arms(4);
+            x.pass(60);
+            x.undo();
+        }
+        Check.due("entries there were", due.size(), 102);
+        Check.same("the latest 40", Check.trace(x), String.join(", ", due.subList(due.size() - 40, due.size())));
     }
 
     private static void on() {
