@@ -272,6 +272,13 @@ public final class ArmsAndTreesTest {
                 Check.due("cause(" + task + ", " + k + ")", x.cause(task, k), due[task][k]);
             }
         }
+        StealingArms deep = Check.with(1, "0:1(1(1(1(1!))))");
+        Check.same("DEPTHS", Check.each(deep, 9), "0 1 2 3 4");
+        Check.same("SPANS", Check.each(deep, 7), "5 4 3 2 1");
+        deep.pass(10);
+        for (int k = 0; k < 5; k++) {
+            Check.due("from the ROOT to the deepest " + k, deep.cause(0, k), k);
+        }
         Check.due("cause(0, max)", x.cause(0, Integer.MAX_VALUE), Check.ABSENT);
         Check.due("cause(0, -1)", x.cause(0, -1), Check.NONE);
         Check.due("cause(4, -1)", x.cause(4, -1), Check.NONE);

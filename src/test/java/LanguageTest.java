@@ -142,6 +142,8 @@ public final class LanguageTest {
         while (each.find()) {
             many++;
             Check.due("lines of " + each.group(2), each.group(3).split("\n").length <= 58 ? 1 : 0, 1);
+            boolean isConstructor = each.group(2).equals("StealingArms");
+            Check.due("made by " + each.group(2), !isConstructor && each.group(3).contains("new ") ? 1 : 0, 0);
         }
         Check.due("methods found", many > 70 ? 1 : 0, 1);
     }
