@@ -1,4 +1,4 @@
-/** What the project's tests share: answers that are due, texts fed, and all that can be seen of an object. */
+/** What the project's tests share: answers that are due, texts fed, and what can be seen of an object. */
 final class Check {
     static final int ABSENT = -5, UNTOLD = -10001, NOTHING = -11, CAST = -12, PLACE = -13, SIZE = -14;
     static final int NONE = StealingArms.NONE, BAD = StealingArms.BAD;
@@ -85,48 +85,6 @@ final class Check {
         StringBuilder all = new StringBuilder();
         for (int task = 0; task < x.count(0); task++) {
             all.append(task == 0 ? "" : " ").append(x.of(task, what));
-        }
-        return all.toString();
-    }
-
-    /** All that can be asked of an object. */
-    static String all(StealingArms x) {
-        StringBuilder all = new StringBuilder();
-        for (int what = 0; what < 7; what++) {
-            all.append(x.told(what)).append(' ').append(x.count(Math.min(what, 5))).append(' ');
-        }
-        all.append("\ntasks");
-        for (int task = 0; task < x.count(0); task++) {
-            all.append('\n');
-            for (int what = 0; what < 12; what++) {
-                all.append(x.of(task, what)).append(' ');
-            }
-            for (int k = 0; k < 6; k++) {
-                all.append(x.cause(task, k)).append(' ');
-            }
-        }
-        for (int arm = 0; arm < x.told(2); arm++) {
-            all.append("\narm ").append(x.arm(arm, 1)).append(' ').append(x.arm(arm, 2)).append(' ');
-            all.append(x.arm(arm, 3)).append(": ").append(row(x, arm));
-        }
-        all.append("\ntrace ").append(trace(x));
-        all.append("\nasked ").append(x.seeds()).append(' ').append(x.looked()).append(' ');
-        all.append(x.ends(0)).append(' ').append(x.ends(1)).append(' ');
-        all.append(x.mean(0)).append(' ').append(x.mean(1)).append(' ');
-        for (int n = 0; n < 61; n += 12) {
-            all.append(x.odds(n, 0)).append('/').append(x.odds(n, 1)).append(' ');
-            for (int what = 0; what < 4; what++) {
-                all.append(x.on(n, what)).append(' ');
-            }
-        }
-        for (int n = 1; n < 5; n++) {
-            all.append(x.till(n)).append(' ');
-        }
-        for (int tape = 0; tape < 6; tape++) {
-            all.append("\ntape ").append(x.judge(tape, 0)).append(':');
-            for (int i = 0; i < 60 && x.read(tape, i) != NO; i++) {
-                all.append(' ').append(x.read(tape, i));
-            }
         }
         return all.toString();
     }

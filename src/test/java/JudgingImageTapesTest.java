@@ -102,31 +102,14 @@ public final class JudgingImageTapesTest {
     }
 
     private static void image() {
-        StealingArms x = Check.with(2, "0:2(1!,3)", "1:2");
-        Check.due("undo, none", x.undo(), Check.STATE);
-        x.pass(3);
-        x.seed(5);
-        Check.due("image", x.image(), 4);
-        String was = Check.all(x);
-        x.pass(4);
-        Check.tree(x, 0, "1(1)");
-        x.cancel(1);
-        x.arms(4);
-        x.seed(8);
-        Check.due("another now", Check.all(x).equals(was) ? 1 : 0, 0);
-        Check.due("undo", x.undo(), 4);
-        Check.same("as it was", Check.all(x), was);
-        x.pass(20);
-        x.arms(1);
-        Check.due("undo again", x.undo(), 4);
-        Check.same("as it was, again", Check.all(x), was);
-        x.cancel(0);
-        Check.tree(x, 1, "7");
-        Check.due("image anew", x.image(), 5);
-        String then = Check.all(x);
-        x.pass(60);
-        Check.due("undo to that", x.undo(), 5);
-        Check.same("as it was then", Check.all(x), then);
+        String was = "grow 0 2(1!,3); grow 1 2; undo = STATE; pass 3; see 0 1; plan 1 2; book 2 2; seed 5; image = 4";
+        String later = "; pass 4; grow 0 1(1); cancel 4; arms 4; pass 1; see 1 0; see -1 0; plan 0 0; book 0 0; book 3 1; seed 8";
+        Script.alike("All is as THE IMAGE", was + later + "; undo = 4", was);
+        Script.alike("All is as THE IMAGE, once more", was + later + "; undo = 4; pass 20; arms 1; undo = 4", was);
+        String anew = was + "; cancel 0; grow 1 7; image = 5";
+        Script.alike("All is as a later IMAGE", anew + "; pass 60; undo = 5", anew);
+        Script.alike("THE IMAGE changes nothing but itself", was + "; pass 2; image", "grow 0 2(1!,3); grow 1 2; pass 3; "
+            + "see 0 1; plan 1 2; book 2 2; seed 5; pass 2; image");
         Check.due("of an empty object", new StealingArms().image(), 0);
     }
 

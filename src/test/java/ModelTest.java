@@ -1,3 +1,5 @@
+import java.util.ArrayList;
+import java.util.List;
 import java.util.Random;
 
 /**
@@ -5,7 +7,7 @@ import java.util.Random;
  * the Model; now and then all that can be seen is looked at too.
  */
 public final class ModelTest {
-    private static final int RUNS = 700, CALLS = 512;
+    private static final int RUNS = 900, CALLS = Calls.MOST;
     private static final int[] ODD = {-1, -2, -5, 5, 6, 9, 32, 40, 60, 61, 99, 100, 127, 128, 9999,
         Integer.MAX_VALUE, Integer.MIN_VALUE, 1 << 16, -(1 << 16)};
     private static final String[] NAMES = {"arms", "seed", "feed", "tree", "of", "cause", "arm", "pass", "cancel",
@@ -16,6 +18,10 @@ public final class ModelTest {
     private final StealingArms real = new StealingArms();
     private final Model model = new Model();
     private final StringBuilder told = new StringBuilder();
+    private final List<Object[]> changing = new ArrayList<>(); // the calls so far that are more than questions
+    private int calls = 0;
+    private StealingArms twin = null; // another object, brought where this one is by the calls that change it
+    private int callsOfTwin = 0;
     private final boolean slow; // few ROUNDS at once: more is asked while TASKS are on their way
     private final boolean hard; // much WORK in each TASK
     private final boolean restless; // ARMS come and go all the time, and so do TASKS that they were at work on
@@ -37,25 +43,22 @@ public final class ModelTest {
     }
 
     private void go(int run) {
-        int calls = 0;
-        for (; late && calls < 165; calls++) {
+        while (late && calls < 165) {
             ask("pass", 60);
         }
         while (calls < CALLS && Check.allRightSoFar()) {
-            if (random.nextInt(100) < 7 && real.count(0) < 32) {
+            if (random.nextInt(100) < 7 && due("count", 0) < 32) {
                 String text = text();
-                for (int k = 0; k < text.length() && calls < CALLS; k++, calls++) {
+                for (int k = 0; k < text.length(); k++) {
                     ask("feed", text.charAt(k));
                 }
-                ask("tree", random.nextInt(20) == 0 ? odd() : random.nextInt(real.told(2)));
+                ask("tree", random.nextInt(20) == 0 ? odd() : random.nextInt(due("told", 2)));
             } else if (restless && random.nextInt(3) == 0) {
                 ask("arms", pick(1, 4));
                 ask("pass", 1);
-                calls++;
             } else {
                 any(NAMES[random.nextInt(NAMES.length)]);
             }
-            calls++;
         }
         if (!Check.allRightSoFar()) {
             System.out.println("run " + run + ":" + told);
@@ -114,7 +117,7 @@ public final class ModelTest {
     }
 
     private void odds() {
-        int near = real.told(4) + random.nextInt(7) - 3;
+        int near = due("told", 4) + random.nextInt(7) - 3;
         int n = random.nextInt(4) > 0 ? near : pick(0, 60);
         int part = pick(0, 1);
         ask("odds", n, part);
@@ -132,18 +135,18 @@ public final class ModelTest {
         if (random.nextInt(8) == 0) {
             ask("book", -1, odd());
         } else {
-            int state = random.nextInt(3) > 0 ? real.of(task, 0) : pick(0, 5);
+            int state = random.nextInt(3) > 0 ? due("of", task, 0) : pick(0, 5);
             ask("book", task, state);
         }
         ask("looked");
     }
 
     private void judge() {
-        if (random.nextBoolean() && real.count(0) > 0) {
+        if (random.nextBoolean() && due("count", 0) > 0) {
             int at = random.nextInt(3);
             ask("tape", 0, 0, at + random.nextInt(34));
-            for (int task = 0; task < real.count(0) && task < 8; task++) {
-                ask("item", 0, at + task, random.nextInt(12) == 0 ? long64() : real.of(task, 3));
+            for (int task = 0; task < due("count", 0) && task < 8; task++) {
+                ask("item", 0, at + task, random.nextInt(12) == 0 ? long64() : due("of", task, 3));
             }
             ask("judge", 0, at);
         }
@@ -155,12 +158,12 @@ public final class ModelTest {
     }
 
     private int aTask() {
-        int tasks = real.count(0);
+        int tasks = due("count", 0);
         return random.nextInt(15) == 0 ? odd() : random.nextInt(tasks + (tasks == 0 ? 1 : 0));
     }
 
     private int odd() {
-        return random.nextInt(3) == 0 ? real.count(0) : ODD[random.nextInt(ODD.length)];
+        return random.nextInt(3) == 0 ? due("count", 0) : ODD[random.nextInt(ODD.length)];
     }
 
     private long long64() {
@@ -203,8 +206,20 @@ public final class ModelTest {
         }
     }
 
+    /** What the Model answers: a question more to the object would be one of its 512 calls. */
+    private int due(String name, long... given) {
+        return (int) model.answer(name, given);
+    }
+
     private void ask(String name, long... given) {
-        long got = answer(real, name, given);
+        if (calls == CALLS) {
+            return;
+        }
+        calls++;
+        if (Calls.mayChange(name)) {
+            changing.add(new Object[] {name, given});
+        }
+        long got = Calls.answer(real, name, given);
         told.append(' ').append(name).append('(');
         for (int k = 0; k < given.length; k++) {
             told.append(k == 0 ? "" : ", ").append(given[k]);
@@ -214,25 +229,26 @@ public final class ModelTest {
         if (!Check.allRightSoFar()) {
             return;
         }
-        if (name.equals("undo") || random.nextInt(40) == 0) {
+        if (changing.size() < CALLS - 30 && (name.equals("undo") || random.nextInt(60) == 0)) {
             lookAtAll();
         }
     }
 
     /** All that no other call hides. */
     private void lookAtAll() {
-        for (int task = 0; task < real.count(0); task++) {
+        twin = null;
+        for (int task = 0; task < due("count", 0); task++) {
             for (int what = 0; what < 12; what++) {
                 same("of", task, what);
             }
             same("cause", task, 1);
         }
-        for (int arm = 0; arm < real.told(2); arm++) {
+        for (int arm = 0; arm < due("told", 2); arm++) {
             for (int what = 0; what < 44; what++) {
                 same("arm", arm, what);
             }
         }
-        for (int k = 0; k <= real.told(6); k++) {
+        for (int k = 0; k <= due("told", 6); k++) {
             for (int what = 0; what < 4; what++) {
                 same("trace", k, what);
             }
@@ -243,44 +259,15 @@ public final class ModelTest {
     }
 
     private void same(String name, long... given) {
-        Check.due(name + " " + given[0] + " " + given[given.length - 1], answer(real, name, given),
-            model.answer(name, given));
-    }
-
-    private static long answer(StealingArms x, String name, long[] given) {
-        int a = given.length > 0 ? (int) given[0] : 0;
-        int b = given.length > 1 ? (int) given[1] : 0;
-        int c = given.length > 2 ? (int) given[2] : 0;
-        switch (name) {
-            case "arms": return x.arms(a);
-            case "seed": return x.seed(a);
-            case "feed": return x.feed(a);
-            case "tree": return x.tree(a);
-            case "of": return x.of(a, b);
-            case "cause": return x.cause(a, b);
-            case "arm": return x.arm(a, b);
-            case "pass": return x.pass(a);
-            case "cancel": return x.cancel(a);
-            case "told": return x.told(a);
-            case "trace": return x.trace(a, b);
-            case "on": return x.on(a, b);
-            case "till": return x.till(a);
-            case "see": return x.see(a, b);
-            case "seeds": return x.seeds();
-            case "odds": return x.odds(a, b);
-            case "mean": return x.mean(a);
-            case "plan": return x.plan(a, b);
-            case "ends": return x.ends(a);
-            case "book": return x.book(a, b);
-            case "looked": return x.looked();
-            case "judge": return x.judge(a, b);
-            case "image": return x.image();
-            case "undo": return x.undo();
-            case "count": return x.count(a);
-            case "tape": return x.tape(a, b, c);
-            case "item": return x.item(a, b, given[2]);
-            case "read": return x.read(a, b);
-            default: return x.shift(a, b, c, (int) given[3], (int) given[4]);
+        if (twin == null || callsOfTwin == CALLS) {
+            twin = new StealingArms();
+            for (Object[] each : changing) {
+                Calls.answer(twin, (String) each[0], (long[]) each[1]);
+            }
+            callsOfTwin = changing.size();
         }
+        callsOfTwin++;
+        Check.due(name + " " + given[0] + " " + given[given.length - 1], Calls.answer(twin, name, given),
+            model.answer(name, given));
     }
 }
