@@ -35,6 +35,8 @@ public final class ArmEdgesTest {
             "count 0 = 0; of 0 0 = NONE; told 3 = 1; told 6 = 0",
             "count 1 = 0; count 2 = 0; count 3 = 0; count 4 = 0; count 5 = 0; undo = STATE; items 0 =; items 5 =");
         Script.holds("SEED (1 at first)", "told 1 = 1", "seed 0 = 1");
+        Script.holds("An object is used for at most 512 calls: the last of them is answered, too",
+            "times 510 seed 5; seed 6 = 5; told 1 = 6", "times 165 pass 60; times 100 feed 49; times 246 told 4; told 0 = 9900");
         Script.holds("ROUND: 0 at first", "told 0 = 0", "pass 0 = 0", "pass 1 = 1");
     }
 
