@@ -6,6 +6,7 @@ import java.util.List;
 /** Promises 9 to 14 (pass, cancel, told, trace, on, till), and what goes on in a ROUND. */
 public final class RoundsTest {
     public static void main(String[] args) {
+        asReadmeShows();
         oneArm();
         throughTakesNoOther();
         draws();
@@ -30,6 +31,11 @@ public final class RoundsTest {
         tillIsLong();
         tillByFewer();
         Check.end("RoundsTest");
+    }
+
+    private static void asReadmeShows() {
+        Script.holds("what README.md shows",
+            "grow 0 2(1,3) = 0; till 1 = 9; told 4 = 7; pass 7 = 7; of 0 0 = 3; of 0 3 = 6");
     }
 
     private static void oneArm() {
